@@ -991,9 +991,13 @@ public final class FloorOfProofs {
          * the aim when they are turned in the start: put in, or left out if in it.
          */
         private static int fewestTurned(Floor floor, int aim, int start, int choice) {
-            int best = NONE;
-            int size = MOST_STONES + 1;
-            for (int set = 0; set <= choice; set++) {
+            // The more are turned, the sooner an aim is met.
+            if (!isMet(floor, aim, start ^ choice)) {
+                return NONE;
+            }
+            int best = choice;
+            int size = Integer.bitCount(choice);
+            for (int set = 0; set < choice; set++) {
                 int stones = Integer.bitCount(set);
                 if (stones < size && holdsAll(choice, set) && isMet(floor, aim, start ^ set)) {
                     best = set;

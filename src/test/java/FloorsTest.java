@@ -171,6 +171,13 @@ public final class FloorsTest {
         fault("a/;", 0);
         fault("a:;", 0);
         fault("a0:", 0);
+        fault("w0,:;", 0);
+        fault("w0,1:;", 0);
+        fault("w0,/;", 0);
+        fault("w0,1/;", 0);
+        fault("w0,A;", 0);
+        fault("w0,9a;", 0);
+        fault("w0,\u00b2;", 0);
     }
 
     private static void faultOfStones() {
@@ -239,9 +246,15 @@ public final class FloorsTest {
         Due.due("stone(0, 3) anew", x.stone(0, 3), 7);
         Due.due("stone(3, 0) anew", x.stone(3, 0), 1);
         x.wipe();
+        Due.write(x, "n10;a7;t0,0,1;t0,0,2;x0,1;w0,3;w9,9;");
+        Due.due("layFloor() of many", x.layFloor(), 10);
+        x.wipe();
         Due.write(x, "t1,1,0;");
         Due.due("layFloor() of few", x.layFloor(), 4);
         Due.due("nothing of the floor before: stone(0, 3)", x.stone(0, 3), 0);
+        Due.due("nothing of the floor before: stone(0, 4)", x.stone(0, 4), 0);
+        Due.due("nothing of the floor before: stone(1, 4)", x.stone(1, 4), 0);
+        Due.due("nothing of the floor before: count(1)", x.count(1), 1);
         Due.due("nothing of the floor before: stone(3, 2)", x.stone(3, 2), 0);
         Due.due("nothing of the floor before: count(3)", x.count(3), 0);
     }
