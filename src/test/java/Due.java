@@ -7,6 +7,7 @@ final class Due {
 
     private static int asked = 0;
     private static int wrong = 0;
+    private static String under = "";
 
     private Due() {
     }
@@ -15,8 +16,17 @@ final class Due {
         asked++;
         if (got != want) {
             wrong++;
-            System.out.println(call + " answered " + got + ", due is " + want);
+            System.out.println(under + call + " answered " + got + ", due is " + want);
         }
+    }
+
+    /** Runs the test of one sentence of DOC.md: what is wrong by it is told under the sentence. */
+    static void bound(String sentence, Runnable test) {
+        int before = asked;
+        under = "\"" + sentence + "\": ";
+        test.run();
+        due("answers asked for", asked > before ? 1 : 0, 1);
+        under = "";
     }
 
     /** Writes a text behind the text, byte by byte (signs 0 to 255). */
@@ -38,6 +48,13 @@ final class Due {
         if (x.layFloor() < 1) {
             due("layFloor() of " + text + ", fault " + x.fault() + ":", 0, 1);
         }
+    }
+
+    /** The fault of a text on a new object. */
+    static int fault(String text) {
+        FloorOfProofs x = new FloorOfProofs();
+        write(x, text);
+        return x.fault();
     }
 
     static int bits(int... numbers) {

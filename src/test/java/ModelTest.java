@@ -2,11 +2,13 @@
 public final class ModelTest {
     private static final int RUNS = 100;
     private static final int CALLS = 512;
+    private static final int MOST_FOR_A_TEXT = 45;
 
     private final Draws draws;
     private final FloorOfProofs x = new FloorOfProofs();
     private final Model model = new Model();
     private final int run;
+    private int used = 0;
 
     /** Draws from a number by a rule that is always the same. */
     private static final class Draws {
@@ -39,24 +41,27 @@ public final class ModelTest {
     }
 
     private void calls() {
-        int used = 0;
         if (!draws.oneOf(12)) {
-            used = newText();
+            newText();
         }
         while (used < CALLS) {
-            used += draws.oneOf(90) ? newText() : call(draws.below(64));
+            if (draws.oneOf(90) && used <= CALLS - MOST_FOR_A_TEXT) {
+                newText();
+            } else {
+                call(draws.below(64));
+            }
         }
     }
 
     private void due(String call, long got, long want) {
+        used++;
         Due.due("run " + run + ": " + call, got, want);
     }
 
-    private int newText() {
+    private void newText() {
         String text = drawText();
         due("wipe()", x.wipe(), model.wipe());
-        int calls = 1;
-        for (int place = 0; place < text.length(); calls++) {
+        for (int place = 0; place < text.length(); ) {
             int n = Math.min(8, text.length() - place);
             long v = draws.oneOf(2) ? -1 : 0;
             for (int i = 0; i < n; i++) {
@@ -67,7 +72,6 @@ public final class ModelTest {
         }
         due("fault() of " + text, x.fault(), model.fault());
         due("layFloor() of " + text, x.layFloor(), model.layFloor());
-        return calls + 2;
     }
 
     private String drawText() {
@@ -114,7 +118,7 @@ public final class ModelTest {
         return draws.oneOf(12) ? draws.below(bound + 3) - 1 : draws.below(bound);
     }
 
-    private int call(int kind) {
+    private void call(int kind) {
         int stones = model.count(0);
         int s = near(stones);
         int t = near(model.count(1));
@@ -151,10 +155,9 @@ public final class ModelTest {
             case 22 -> due("proofs(" + s + ", " + what + ")", x.proofs(s, what), model.proofs(s, what));
             case 23 -> due("worn(" + s + ", " + set + ")", x.worn(s, set), model.worn(s, set));
             case 24 -> {
-                for (int ends = draws.below(4); ends < 1 << stones; ends += 4) {
+                for (int ends = draws.below(4); ends < 1 << stones && used < CALLS; ends += 4) {
                     due("worn(" + s + ", " + ends + ")", x.worn(s, ends), model.worn(s, ends));
                 }
-                return (1 << stones) / 4;
             }
             case 25 -> due("tell(" + t + ")", x.tell(t), model.tell(t));
             case 26 -> due("noRow()", x.noRow(), model.noRow());
@@ -167,7 +170,6 @@ public final class ModelTest {
             case 29 -> due("keep()", x.keep(), model.keep());
             default -> due("back()", x.back(), model.back());
         }
-        return 1;
     }
 
     private void takeOutAtTimes(int s) {
